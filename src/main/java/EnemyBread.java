@@ -807,17 +807,18 @@ public final class EnemyBread {
                 kind = AT_END;
                 return;
             }
-            int c = text[at];
             // A word and a number without a blank between them: as a sign that is never asked for.
-            boolean glued = at == before && at > 0 && isWordly(text[at - 1]);
-            if (isLetter(c) && !glued) {
-                scanWord();
-            } else if (isDigit(c) && !glued) {
-                scanNumber();
-            } else {
-                kind = A_SIGN;
-                sign = c;
-                at++;
+            boolean glued = at == before && at > 0 && kindOf(text[at - 1]) != A_SIGN;
+            sign = text[at];
+            kind = glued ? A_SIGN : kindOf(sign);
+            at++;
+            for (int i = at; kind != A_SIGN && i < length && kindOf(text[i]) == kind; i++) {
+                at = i + 1;
+            }
+            if (kind == A_WORD) {
+                word = wordNumber();
+            } else if (kind == A_NUMBER) {
+                value = firstDigits();
             }
         }
 
@@ -872,7 +873,7 @@ public final class EnemyBread {
             return fault == 0;
         }
 
-        void test() {
+        private void test() {
             both();
             for (int i = 0; i < MOST_BYTES && takeWord(OR); i++) {
                 both();
@@ -880,7 +881,7 @@ public final class EnemyBread {
             }
         }
 
-        void sum() {
+        private void sum() {
             product();
             for (int i = 0; i < MOST_BYTES && fault == 0 && (isSign('+') || isSign('-')); i++) {
                 int operator = isSign('+') ? Machine.PLUS : Machine.MINUS;
@@ -917,25 +918,21 @@ public final class EnemyBread {
             } else if (takeWord(ALL)) {
                 emit(1);
             } else {
-                comparison();
+                sum();
+                int operator = comparing();
+                sumIfFine();
+                emit(operator);
             }
         }
 
-        private void comparison() {
-            sum();
-            int operator = Machine.SAME;
-            if (isSign('<')) {
-                operator = Machine.BELOW;
-            } else if (isSign('>')) {
-                operator = Machine.ABOVE;
-            } else if (!isSign('=')) {
-                refuse(FAULT_TEXT, start);
-            }
-            if (fault == 0) {
+        private int comparing() {
+            int operator = isSign('<') ? Machine.BELOW : isSign('>') ? Machine.ABOVE : Machine.SAME;
+            if (operator == Machine.SAME) {
+                expectSign('=');
+            } else if (fault == 0) {
                 next();
-                sum();
-                emit(operator);
             }
+            return operator;
         }
 
         private void product() {
@@ -1020,24 +1017,13 @@ public final class EnemyBread {
             }
         }
 
-        private void scanWord() {
-            kind = A_WORD;
-            for (int i = at; i >= 0 && i < length && isLetter(text[i]); i++) {
-                at = i + 1;
+        /** Digits too many are a fault, whatever they come to. */
+        private int firstDigits() {
+            int number = 0;
+            for (int i = start; i >= 0 && i < at && i < start + MOST_DIGITS; i++) {
+                number = 10 * number + text[i] - '0';
             }
-            word = wordNumber();
-        }
-
-        private void scanNumber() {
-            kind = A_NUMBER;
-            value = 0;
-            for (int i = at; i >= 0 && i < length && isDigit(text[i]); i++) {
-                // Digits too many are a fault, whatever they come to.
-                if (i - start < MOST_DIGITS) {
-                    value = 10 * value + text[i] - '0';
-                }
-                at = i + 1;
-            }
+            return number;
         }
 
         private int wordNumber() {
@@ -1061,16 +1047,11 @@ public final class EnemyBread {
             return NO_WORD;
         }
 
-        private static boolean isLetter(int c) {
-            return c >= 'a' && c <= 'z';
-        }
-
-        private static boolean isDigit(int c) {
-            return c >= '0' && c <= '9';
-        }
-
-        private static boolean isWordly(int c) {
-            return isLetter(c) || isDigit(c);
+        private static int kindOf(int c) {
+            if (c >= 'a' && c <= 'z') {
+                return A_WORD;
+            }
+            return c >= '0' && c <= '9' ? A_NUMBER : A_SIGN;
         }
     }
 
@@ -1096,37 +1077,31 @@ public final class EnemyBread {
             toldKinds = 0;
             in.begin(text, length, rules.code, rules.clear());
             for (int i = 0; i <= MOST_STATEMENTS && in.fault == 0 && in.kind != Reader.AT_END; i++) {
+                int word = in.word;
                 if (i == MOST_STATEMENTS) {
                     in.refuse(Reader.FAULT_MANY, in.start);
+                } else if ((i == 0) != (word == Reader.LOAF)) {
+                    in.refuse(Reader.FAULT_TEXT, in.start);
+                } else if (word == Reader.LOAF) {
+                    in.next();
+                    rules.loaf = in.takeNumber(1, 20);
+                } else if (word == Reader.HOUSE) {
+                    readHouse();
+                } else if (word == Reader.FEUD) {
+                    readFeud();
+                } else if (word >= Reader.BAKES && word <= Reader.GROWS) {
+                    readRule(word - Reader.BAKES);
+                } else if (word == Reader.FAMINE) {
+                    in.next();
+                    rules.famine = in.takeNumber(0, 100);
                 } else {
-                    readStatement(i == 0);
-                    in.expectSign(';');
-                    rules.statements++;
+                    in.refuse(Reader.FAULT_TEXT, in.start);
                 }
+                in.expectSign(';');
+                rules.statements++;
             }
             if (rules.statements == 0) {
                 in.refuse(Reader.FAULT_TEXT, in.length);
-            }
-        }
-
-        private void readStatement(boolean first) {
-            int word = in.word;
-            if (first != (word == Reader.LOAF)) {
-                in.refuse(Reader.FAULT_TEXT, in.start);
-            } else if (word == Reader.LOAF) {
-                in.next();
-                rules.loaf = in.takeNumber(1, 20);
-            } else if (word == Reader.HOUSE) {
-                readHouse();
-            } else if (word == Reader.FEUD) {
-                readFeud();
-            } else if (word >= Reader.BAKES && word <= Reader.GROWS) {
-                readRule(word - Reader.BAKES);
-            } else if (word == Reader.FAMINE) {
-                in.next();
-                rules.famine = in.takeNumber(0, 100);
-            } else {
-                in.refuse(Reader.FAULT_TEXT, in.start);
             }
         }
 
@@ -1231,11 +1206,6 @@ public final class EnemyBread {
         final int[] hateOf = new int[MOST_HOUSES];
         final int[] tasteOf = new int[MOST_HOUSES];
         private final int[] lying = new int[MOST_LYING];
-
-        int valueOf(Rules rules, int kind) {
-            boolean known = kind >= 0 && kind < Rules.KINDS;
-            return known ? value(rules.code, rules.from[kind], rules.to[kind]) : 0;
-        }
 
         int value(int[] code, int from, int to) {
             int top = 0;
@@ -1342,21 +1312,24 @@ public final class EnemyBread {
 
         int tasteOfLoaf(State state, int baker, int eater) {
             tellLoaf(state, baker, eater);
-            return bounded(machine.valueOf(rules, Rules.TASTES));
+            return bounded(machine.value(rules.code, rules.from[Rules.TASTES], rules.to[Rules.TASTES]));
         }
 
         private int pickBaker(State state, int eater, int busy) {
             int able = 0;
+            int best = NONE;
             for (int house = 0; house < MOST_HOUSES; house++) {
                 if (state.hate[8 * eater + house] > 0 && state.flour[house] >= rules.loaf
                         && (busy >> house & 1) == 0) {
                     able |= 1 << house;
+                    best = house;
                 }
             }
+            // One alone need not be weighed.
             if (Integer.bitCount(able) < 2) {
-                return able == 0 ? NONE : Integer.numberOfTrailingZeros(able);
+                return best;
             }
-            int best = NONE;
+            best = NONE;
             int most = 0;
             for (int house = 0; house < MOST_HOUSES; house++) {
                 if ((able >> house & 1) != 0) {
@@ -1375,7 +1348,8 @@ public final class EnemyBread {
             for (int house = 0; house < MOST_HOUSES; house++) {
                 if (state.isThere(house)) {
                     tellHouse(state, house);
-                    if (machine.valueOf(rules, Rules.STARVES) != 0) {
+                    int holds = machine.value(rules.code, rules.from[Rules.STARVES], rules.to[Rules.STARVES]);
+                    if (holds != 0) {
                         state.bury(house);
                     }
                 }
@@ -1391,7 +1365,8 @@ public final class EnemyBread {
                         machine.facts[Reader.HATE] = hate;
                         machine.facts[Reader.LOAVES] =
                                 (bakerOf[one] == other ? 1 : 0) + (bakerOf[other] == one ? 1 : 0);
-                        state.setHate(one, other, bounded(machine.valueOf(rules, Rules.COOLS)));
+                        int left = machine.value(rules.code, rules.from[Rules.COOLS], rules.to[Rules.COOLS]);
+                        state.setHate(one, other, bounded(left));
                     }
                 }
             }
@@ -1401,7 +1376,8 @@ public final class EnemyBread {
             for (int house = 0; house < MOST_HOUSES; house++) {
                 if (state.isThere(house)) {
                     tellHouse(state, house);
-                    state.flour[house] = bounded(state.flour[house] + machine.valueOf(rules, Rules.GROWS));
+                    int more = machine.value(rules.code, rules.from[Rules.GROWS], rules.to[Rules.GROWS]);
+                    state.flour[house] = bounded(state.flour[house] + more);
                 }
             }
         }
