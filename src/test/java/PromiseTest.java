@@ -149,6 +149,7 @@ public final class PromiseTest {
         fine("loaf 5;grows((((((1))))))+((((((1))))));", 2);
         fine("loaf 5;starves not all and not all and [not all] or [[[[[[all]]]]]];", 2);
         fine("loaf 5;" + times("famine 1;", 59) + " \n ", 60);
+        fine("loaf 5;grows 1" + times("*1", 792) + " ;", 2);
         String seven = "loaf 5;";
         for (char c = 'a'; c < 'h'; c++) {
             seven += "house " + c + " flour 1 salt 1;";
@@ -202,6 +203,8 @@ public final class PromiseTest {
         faulty(three + "feud a with c hate 0;", 2, three.length() + 19);
         faulty(three + "feud a with c hate 100;", 2, three.length() + 19);
         faulty("loaf 5;famine 101;", 2, 14);
+        String least = three + "feud a with c hate 1;";
+        faulty(least + "feud c with a hate 1;", 3, least.length() + 12);
         faulty("loaf 5;" + times("famine 1;", 59) + " !", 5, 7 + 59 * 9 + 1);
         faulty("loaf 5;" + times("famine 1;", 60), 5, 7 + 59 * 9);
         for (String kind : new String[] {"bakes 1", "tastes 1", "starves all", "cools 1", "grows 1"}) {
@@ -662,6 +665,14 @@ public final class PromiseTest {
         EnemyBread y = of("loaf 9;house a flour 0 salt 9;house b flour 0 salt 9;house c flour 9 salt 0;"
                 + "feud b with c hate 1;grows 9;cools hate-loaves*2;starves hunger>1 and salt=0;");
         due("c is gone either way, if b rests", y.rest(2), 2);
+        EnemyBread first = of("loaf 9;house a flour 0 salt 0;house b flour 9 salt 0;feud a with b hate 1;grows 9;"
+                + "cools hate-loaves*2;");
+        due("the first house, too", first.rest(2), 1);
+        // Flour above 18 starves, so who does not bake may be gone: tried by the model for all sixteen sets.
+        EnemyBread none = of("loaf 9;house a flour 18 salt 2;house b flour 18 salt 0;house c flour 9 salt 1;"
+                + "house d flour 9 salt 2;feud a with c hate 7;feud a with d hate 1;feud c with d hate 2;"
+                + "grows hunger*3;cools 9-hate-loaves;bakes 0-flour;starves flour>18 or hunger>4;");
+        due("no set is", none.rest(4), NONE);
     }
 
     private static void see() {
@@ -858,6 +869,9 @@ public final class PromiseTest {
         due("0 of 100", of(TWO + "famine 5;famine 0;").chance(100), 0);
         due("none told", of(TWO).chance(100), 0);
         due("without houses", of("loaf 1;famine 100;").chance(3), 0);
+        EnemyBread alone = of("loaf 1;house a flour 99 salt 0;grows 0;famine 100;");
+        due("one house", alone.chance(2), 2);
+        due("half of a half, rounded down", alone.house(0, 0), 24);
         due("without a duchy", new EnemyBread().chance(1), NONE);
         put(e, image(999, new int[] {1, 1, 0, 1, 1, 0, 1, 1, 0}, 0, 0, 0)).on();
         due("at DAY 999", e.chance(1), NONE);
@@ -953,6 +967,12 @@ public final class PromiseTest {
         asks(e, "often tastes hate 9 = 10", 2);
         asks(e, "total min(salt,2)+max(number,2)-day", 7 + 9);
         asks(e, "often hate hate hate hate hate hate 1=1", 0);
+        asks(e, "most 1" + times("+1", 797), 798);
+        asks(e, "most 1+1*" + times("(1+1*", 6) + "2" + times(")", 6), 9);
+        asks(e, "most 1+1*" + times("min(99,1+1*", 6) + "2" + times(")", 6), 9);
+        asks(e, "often 1=2 or all and " + times("[1=2 or all and ", 6) + "1<1+1*2" + times("]", 6), 4);
+        asks(e, "often 1=2 or all and " + times("[1=2 or all and ", 3) + "1<1+1*" + times("max(0,1+1*", 3) + "2"
+                + times(")", 3) + times("]", 3), 4);
         EnemyBread gone = of(FOUR + "starves salt=1 or salt=4;grows 0;");
         gone.days(1);
         asks(gone, "first all", 1);
@@ -1060,7 +1080,8 @@ public final class PromiseTest {
             image(0, new int[] {1, 100, 9, 1, 0, 0}, 99), image(0, new int[] {1, 99, 10, 1, 0, 0}, 99),
             image(0, new int[] {1, 99, 9, 1, 0, 0}, 100), image(0, new int[] {0, 99, 9, 1, 0, 0}, 1),
             image(0, new int[] {1, 99, 9, 0, 0, 0}, 1), image(0, new int[] {1, 99, 9}), image(0, new int[] {}), {},
-            image(0, new int[] {1, 1, 1, 1, 1, 1, 1, 1, 1}, 1, 1, 1)};
+            image(0, new int[] {1, 1, 1, 1, 1, 1, 1, 1, 1}, 1, 1, 1), image(0, new int[] {2, 9, 9, 1, 0, 0}, 0),
+            image(0, new int[] {1, 9, 9, 2, 0, 0}, 0)};
         for (int[] b : bad) {
             due("an image that is none", put(e, b).on(), false);
             due("all stays", e.has(2), 999);
@@ -1106,6 +1127,44 @@ public final class PromiseTest {
         due("ask() refuses nothing", e.status(1), 2);
     }
 
+    private static void soughtOnce(EnemyBread e, String when, int[] want) {
+        int[] got = {e.table(0), e.wanting(NONE), e.spared(2, NONE), e.flour(0, 1), e.tells(0, 2)};
+        for (int i = 0; i < want.length; i++) {
+            due("answer " + i + " " + when, got[i], want[i]);
+            due("answer " + i + " " + when + ", asked again", new int[] {
+                e.table(0), e.wanting(NONE), e.spared(2, NONE), e.flour(0, 1), e.tells(0, 2)}[i], want[i]);
+        }
+    }
+
+    /** What is sought must be sought anew behind each change. */
+    private static void soughtAnew() {
+        String one = "loaf 5;house a flour 20 salt 0;house b flour 20 salt 0;starves hunger>1;grows 0;";
+        String two = one + "feud a with b hate 3;tastes flour;";
+        int[] apart = {0, 1, 0, 0, 100};
+        int[] foes = {2, 0, 0, 0, 5};
+        EnemyBread e = of(one + "tastes flour;");
+        soughtOnce(e, "at first", apart);
+        e.feud(0, 1, 3);
+        soughtOnce(e, "behind feud()", foes);
+        e.undo();
+        soughtOnce(e, "behind undo()", apart);
+        put(e, two).duchy();
+        soughtOnce(e, "behind duchy()", foes);
+        e.bring(1, 4);
+        soughtOnce(e, "behind bring()", new int[] {1, NONE, 0, 0, 5});
+        e.undo();
+        put(e, 0, 1, 50).see();
+        soughtOnce(e, "behind see()", new int[] {2, 0, 0, 50, 1});
+        put(e, image(0, new int[] {1, 20, 0, 1, 20, 0}, 0)).on();
+        soughtOnce(e, "behind on()", new int[] {0, 1, 0, NONE, NONE});
+        put(e, two + "famine 100;").duchy();
+        e.days(4);
+        soughtOnce(e, "behind days()", new int[] {0, NONE, 1, 0, 5});
+        e.undo();
+        e.chance(3);
+        due("behind chance()", e.table(0), (e.house(0, 0) >= 5 ? 1 : 0) + (e.house(1, 0) >= 5 ? 1 : 0));
+    }
+
     private static void run(int k) {
         promise = k;
         switch (k) {
@@ -1141,7 +1200,7 @@ public final class PromiseTest {
             case 30: image(); break;
             case 31: octet(); break;
             case 32: on(); break;
-            default: status();
+            default: status(); soughtAnew();
         }
     }
 
