@@ -40,6 +40,7 @@ public final class EnemyBread {
     private final DuchyReader duchyReader = new DuchyReader();
     private final Asker asker = new Asker();
     private final Calendar calendar = new Calendar();
+    /** Those by which the calendar goes; empty ones without a duchy. */
     private Rules rules = calendar.rules;
     private final State now = new State();
     private final State ahead = new State();
