@@ -1,7 +1,5 @@
 /** Each promise of the document by hand: ordinary inputs, the edges that it names, wrong inputs. */
-public final class PromiseTest {
-    private static final int NONE = EnemyBread.NONE;
-    private static final long NOTHING = EnemyBread.NOTHING;
+public final class PromiseTest extends Calls {
     private static final String TWO = "loaf 5;house a flour 20 salt 3;house b flour 12 salt 1;feud a with b hate 30;";
     private static final String FOUR = "loaf 5;house a flour 20 salt 1;house b flour 20 salt 2;house c flour 20 salt 3;"
             + "house d flour 20 salt 4;feud a with b hate 10;feud b with c hate 20;feud c with d hate 30;"
@@ -21,26 +19,6 @@ public final class PromiseTest {
 
     private static void due(String call, boolean got, boolean want) {
         due(call, got ? 1 : 0, want ? 1 : 0);
-    }
-
-    private static EnemyBread put(EnemyBread x, String s) {
-        for (int i = 0; i < s.length(); i += 20) {
-            int[] five = new int[5];
-            for (int k = 0; k < 20; k++) {
-                five[k / 4] = five[k / 4] << 8 | (i + k < s.length() ? s.charAt(i + k) & 255 : 32);
-            }
-            x.feed(five[0], five[1], five[2], five[3], five[4]);
-        }
-        x.end(s.length());
-        return x;
-    }
-
-    private static EnemyBread put(EnemyBread x, int... bytes) {
-        StringBuilder b = new StringBuilder();
-        for (int i : bytes) {
-            b.append((char) i);
-        }
-        return put(x, b.toString());
     }
 
     private static EnemyBread of(String s) {
@@ -400,21 +378,6 @@ public final class PromiseTest {
         due("at DAY 999, too", eater.baker(0), 2);
         put(eater, image(0, new int[] {0, 20, 0, 1, 20, 0, 1, 20, 0}, 0, 0, 5)).on();
         due("one that is not there", eater.baker(0), NONE);
-    }
-
-    /** An image's bytes with its last one. */
-    private static int[] image(int day, int[] houses, int... hates) {
-        int[] b = new int[3 + houses.length + hates.length];
-        b[0] = day / 256;
-        b[1] = day % 256;
-        System.arraycopy(houses, 0, b, 2, houses.length);
-        System.arraycopy(hates, 0, b, 2 + houses.length, hates.length);
-        int c = 233;
-        for (int i = 0; i < b.length - 1; i++) {
-            c = (3 * c + b[i]) % 251;
-        }
-        b[b.length - 1] = c;
-        return b;
     }
 
     private static void taste() {
@@ -824,14 +787,6 @@ public final class PromiseTest {
         due("at DAY 999", x.days(1), NONE);
         due("status(3)", x.status(3), 5);
         due("without houses", of("loaf 1;").days(7), 0);
-    }
-
-    /** A draw of m as the document tells it. */
-    private static long x;
-
-    private static int draw(int m) {
-        x = (1103515245L * x + 12345) % 2147483648L;
-        return (int) (x / 64 % m);
     }
 
     private static void chance() {

@@ -1,7 +1,7 @@
 import java.util.Random;
 
 /** Calls with any arguments in any state: none may throw, and refused ones must say so in what they answer. */
-public final class RoughTest {
+public final class RoughTest extends Calls {
     private static final int[] EDGES = {Integer.MIN_VALUE, Integer.MIN_VALUE + 1, -1000, -2, -1, 0, 1, 2, 3, 4, 5, 6, 7, 8,
         9, 10, 19, 20, 21, 30, 31, 59, 60, 61, 98, 99, 100, 101, 255, 256, 999, 1000, 1600, Integer.MAX_VALUE - 1,
         Integer.MAX_VALUE};
@@ -17,17 +17,6 @@ public final class RoughTest {
 
     private int any() {
         return r.nextInt(3) == 0 ? r.nextInt(8) : EDGES[r.nextInt(EDGES.length)];
-    }
-
-    private void put(String s) {
-        for (int i = 0; i < s.length(); i += 20) {
-            int[] five = new int[5];
-            for (int k = 0; k < 20; k++) {
-                five[k / 4] = five[k / 4] << 8 | (i + k < s.length() ? s.charAt(i + k) & 255 : 32);
-            }
-            x.feed(five[0], five[1], five[2], five[3], five[4]);
-        }
-        x.end(s.length());
     }
 
     private long call(int k) {
@@ -72,10 +61,10 @@ public final class RoughTest {
         for (int i = 0; i < 512; i++) {
             int k = r.nextInt(32);
             if (k == 2 && r.nextInt(4) > 0) {
-                put(texts.duchy());
+                put(x, texts.duchy());
             }
             if (k == 27 && r.nextInt(4) > 0) {
-                put(texts.question());
+                put(x, texts.question());
             }
             long answer = call(k);
             if (answer < -1 || answer > 1600) {
