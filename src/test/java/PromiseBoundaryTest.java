@@ -204,6 +204,17 @@ public final class PromiseBoundaryTest extends Sentences {
         due("can be undone", e.has(8), 0);
         due("undo()", e.undo(), false);
         due("a third house", e.house(2, 0), NONE);
+        // Nothing of one duchy comes back with a later one.
+        String four = houses(4) + "feud a with b hate 9;";
+        for (int i = 0; i < 3; i++) {
+            due("duchy()", put(e, four).duchy(), 6);
+            due("duchy() with a FAULT", put(e, houses(2) + "feud a with b hate 7;famine 99;x").duchy(), NONE);
+            due("feuds", e.has(4), 1);
+            due("hate", e.hate(0, 1), 9);
+            due("duchy()", put(e, houses(2) + "famine 50;").duchy(), 4);
+            due("feuds", e.has(4), 0);
+            due("HOUSES", e.has(1), 2);
+        }
         x = 77;
         for (int i = 0; i < 12; i++) {
             int famine = draw(100) < 50 ? 1 : 0;
@@ -864,6 +875,10 @@ public final class PromiseBoundaryTest extends Sentences {
 
     @Says(in = "Promise 26", text = "n DAYS by the seed (1 .. 100), one ACT: how many famines;")
     static void chance() {
+        EnemyBread fed = of(PAIR);
+        due("chance(2)", fed.chance(2), 0);
+        due("loaves", fed.has(6), 4);
+        due("flour", fed.house(0, 0), 12);
         EnemyBread e = of(PAIR + "famine 50;");
         x = 1;
         int famines = 0;
@@ -1140,6 +1155,7 @@ public final class PromiseBoundaryTest extends Sentences {
             image(0, new int[] {1, 9, 0, 1, 9, 0, 0, 9, 10}, 1, 0, 0),
             image(0, new int[] {2, 9, 0, 1, 9, 0, 1, 9, 0}, 1, 1, 1),
             image(0, new int[] {1, 9, 0, 1, 9, 0, 255, 9, 0}, 1, 0, 0),
+            image(0, new int[] {2, 9, 0, 1, 9, 0, 1, 9, 0}, 0, 0, 1),
             image(0, new int[] {0, 9, 0, 1, 9, 0, 1, 9, 0}, 1, 0, 1),
             image(0, new int[] {1, 9, 0, 0, 9, 0, 1, 9, 0}, 1, 1, 0),
             image(0, new int[] {1, 9, 0, 1, 9, 0, 0, 9, 0}, 1, 1, 0),

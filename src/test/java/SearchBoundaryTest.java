@@ -35,6 +35,21 @@ public final class SearchBoundaryTest extends Sentences {
         table(at(houses(3), 0, new int[] {1, 20, 0, 0, 20, 0, 1, 20, 0}, 0, 3, 0), 2, 6, 2, NONE, 0);
         table(at(PAIR, 999, new int[] {1, 20, 0, 1, 20, 0}, 4), 2, 8, 1, 0);
         table(of("loaf 5;"), 0, 0);
+        due("a ninth house", of(houses(7)).table(9), NONE);
+        EnemyBread now = of(PAIR);
+        table(now, 2, 8, 1, 0);
+        now.bring(1, 4);
+        table(now, 1, 4, NONE, 0);
+        now.undo();
+        table(now, 2, 8, 1, 0);
+        now.feud(0, 1, 9);
+        table(now, 2, 18, 1, 0);
+        now.days(4);
+        table(now, 0, 0, NONE, NONE);
+        put(now, PAIR).duchy();
+        table(now, 2, 8, 1, 0);
+        put(now, image(0, new int[] {1, 20, 0, 1, 20, 0}, 1)).on();
+        table(now, 2, 2, 1, 0);
     }
 
     @Says(in = "III", text = "MOST eat by it, of these with the least hate together (for each who eats that of the feud with whoever "
@@ -84,6 +99,12 @@ public final class SearchBoundaryTest extends Sentences {
         due("without", at(houses(2), 0, new int[] {1, 5, 0, 1, 4, 0}, 0).wanting(NONE), NONE);
         wanting(at(houses(3), 0, new int[] {1, 5, 0, 0, 0, 0, 1, 5, 0}, 0, 0, 0), 2);
         wanting(at(houses(3), 0, new int[] {0, 5, 0, 0, 0, 0, 0, 5, 0}, 0, 0, 0));
+        EnemyBread now = of(houses(2));
+        wanting(now, 1);
+        now.feud(0, 1, 1);
+        wanting(now);
+        now.undo();
+        wanting(now, 1);
         due("one alone is there", at(houses(2), 0, new int[] {1, 5, 0, 0, 0, 0}, 0).wanting(NONE), NONE);
     }
 
@@ -110,6 +131,21 @@ public final class SearchBoundaryTest extends Sentences {
         spared(two, 1, 1);
         spared(two, 2);
         spared(two, 20);
+        // In the third DAY both starve with it or without, but not in two.
+        EnemyBread third = of(full + "feud a with b hate 1;starves hunger>1 or day=2;");
+        spared(third, 2);
+        spared(third, 3, 1);
+        // Now: with a ring of three each has an enemy left.
+        EnemyBread now = of(full + "feud a with b hate 1;starves hunger>1 and salt=0;");
+        spared(now, 5);
+        now.feud(0, 2, 9);
+        now.feud(1, 2, 8);
+        spared(now, 5, 2, 10);
+        now.undo();
+        now.undo();
+        spared(now, 5);
+        // d and e alone may starve.
+        spared(of(houses(5) + "feud d with e hate 1;starves hunger>1 and salt>3;"), 2);
         // c starves with it or without; b bakes for a and c for b, so a and b need one another alone.
         spared(of(full + "feud a with b hate 9;feud b with c hate 1;starves hunger>1 or salt=1;"), 2, 10);
         // All starve: all can be ended.
@@ -156,6 +192,12 @@ public final class SearchBoundaryTest extends Sentences {
         EnemyBread ten = of("loaf 9;house a flour 18 salt 0;house b flour 9 salt 0;feud a with b hate 3;grows 0;"
                 + "cools hate-loaves*2;starves flour>17 and day>0;");
         due("9 is less than gone", ten.rest(10), 2);
+        // Who bakes has less than 20 of flour, and is gone: each that could bake rests.
+        StringBuilder seven = new StringBuilder(houses(7));
+        for (char c = 'a'; c < 'g'; c++) {
+            seven.append("feud ").append(c).append(" with ").append((char) (c + 1)).append(" hate 1;");
+        }
+        due("all seven", of(seven + "starves flour<20;grows 0;").rest(1), 127);
         due("one that is gone ahead", at(houses(3), 0, new int[] {0, 0, 0, 1, 20, 0, 1, 20, 0}, 0, 0, 4).rest(2), 0);
     }
 
@@ -254,6 +296,21 @@ public final class SearchBoundaryTest extends Sentences {
         due("not both of one DAY", e.flour(0, 0), 0);
         put(e, 0, 1, 20, 0, 1, 20).see();
         due("one row twice", e.flour(0, 0), 1);
+        // b has 20, and so a tastes 20, whatever a has.
+        put(e, 0, 0, 20, 0, 1, 33).see();
+        due("rows of two houses", e.flour(0, 0), 1);
+        due("rows of two houses", e.flour(0, 1), 33);
+        put(e, 0, 0, 21, 0, 1, 33).see();
+        due("rows of two houses, one not so", e.flour(0, 0), 0);
+        int[] sixteen = new int[48];
+        for (int i = 0; i < 16; i++) {
+            sixteen[3 * i + 2] = 20;
+        }
+        put(e, sixteen).see();
+        due("16 rows", e.flour(0, 0), 100);
+        sixteen[47] = 21;
+        put(e, sixteen).see();
+        due("the 16th not so", e.flour(0, 0), 0);
         EnemyBread gone = at(PAIR, 0, new int[] {1, 20, 0, 0, 20, 0}, 0);
         due("one that is not there", gone.flour(1, 0), NONE);
         due("one that is", gone.flour(0, 0), 100);
@@ -271,6 +328,14 @@ public final class SearchBoundaryTest extends Sentences {
         // In DAY 30 b tastes the flour of a; who had 0 to 4 has had no loaf less, and 5 more: 2 are alike at most.
         telling(of(tellingIn(30)), 0, 30, 1, 2);
         telling(of(tellingIn(29)), 0, 29, 1, 2);
+        EnemyBread both = of(tellingIn(30));
+        telling(both, 1, 30, 0, 2);
+        telling(both, 0, 30, 1, 2);
+        telling(both, 1, 30, 0, 2);
+        both.feud(0, 1, 0);
+        telling(both, 1, 0, 0, 100);
+        both.undo();
+        telling(both, 1, 30, 0, 2);
         // Then in no DAY up to 30: none in the next DAY for 0 to 4, else 0.
         telling(of(tellingIn(31)), 0, 0, 1, 95);
         // Of those that are left alone.
@@ -319,6 +384,7 @@ public final class SearchBoundaryTest extends Sentences {
             + "loaf would taste that one would bake for it now, -1 if it is no ENEMY.)")
     static void factsOfQuestions() {
         EnemyBread e = of(houses(3) + "feud a with b hate 4;feud a with c hate 9;tastes salt*10+hate;");
+        asks(of(houses(2) + "feud a with b hate 1;"), "total hate 0*10+tastes 0", 10 + 1 - 1);
         asks(e, "least number", 0);
         asks(e, "most number", 2);
         asks(e, "most feuds", 2);

@@ -14,13 +14,16 @@ class Sentences extends Calls {
     private static boolean bad;
 
     /** The document by its headings, its terms by their numbers. */
-    private static Map<String, String> parts(Path document) throws Exception {
+    static Map<String, String> parts(String[] args) throws Exception {
+        Path document = Path.of(args.length > 0 ? args[0] : ".", "../shared/DOC.md");
         Map<String, String> parts = new LinkedHashMap<>();
         String part = "";
         for (String line : Files.readAllLines(document, StandardCharsets.UTF_8)) {
             if (line.startsWith("## ")) {
                 part = line.substring(3).replaceAll(":.*", "");
-            } else if (line.matches("(I|II|III|IV)\\. .*")) {
+                continue;
+            }
+            if (line.matches("(I|II|III|IV)\\. .*")) {
                 part = line.substring(0, line.indexOf('.'));
             } else if (line.startsWith("The constants:")) {
                 part = "The constants";
@@ -32,7 +35,7 @@ class Sentences extends Calls {
 
     /** Runs all tests of a class; each of the named parts must have one. */
     static void run(Class<?> tests, String[] args, String... named) throws Exception {
-        Map<String, String> parts = parts(Path.of(args.length > 0 ? args[0] : ".", "../shared/DOC.md"));
+        Map<String, String> parts = parts(args);
         Set<String> met = new TreeSet<>();
         int count = 0;
         int wrong = 0;

@@ -28,6 +28,8 @@ public final class TextBoundaryTest extends Sentences {
     static void loafFirstAndAlone() {
         faulty("^house a flour 1 salt 1;loaf 5;", 1);
         faulty("^famine 1;", 1);
+        faulty("^;", 1);
+        faulty("^;loaf 5;", 1);
         faulty("loaf 5;^loaf 5;", 1);
         faulty("loaf 5;famine 1;^loaf", 1);
     }
@@ -90,6 +92,20 @@ public final class TextBoundaryTest extends Sentences {
         EnemyBread e = of(houses(1) + "famine 100;");
         due("duchy()", put(e, houses(1)).duchy(), 2);
         due("without, behind one with", e.chance(100), 0);
+        due("duchy()", put(e, houses(1)).duchy(), 2);
+        due("without, behind two", e.chance(100), 0);
+        // A seed by which the first draw is 0: even that is not below 0.
+        x = 1;
+        long seed = 1;
+        while (draw(100) > 0) {
+            seed = x;
+        }
+        EnemyBread none = of(houses(1));
+        none.seed((int) seed);
+        due("without, by a draw of 0", none.chance(1), 0);
+        EnemyBread one = of(houses(1) + "famine 1;");
+        one.seed((int) seed);
+        due("1, by a draw of 0", one.chance(1), 1);
     }
 
     @Says(in = "I", text = "TEST: BOTH { or BOTH }. BOTH: FACT { and FACT }.")
@@ -100,6 +116,9 @@ public final class TextBoundaryTest extends Sentences {
         starvesAt("[day=2 or day=0] and salt=1", 0);
         starvesAt("day=5 or day=4 or day=1 and all", 1);
         starvesAt("day>2 and day>3 and day>1", 4);
+        starvesAt("1<2 and 2>1 and 1=1 and all and [all] and not 1=2", 0);
+        starvesAt("not [1<2 and 2>1 and 1=1] or day=3", 3);
+        starvesAt("not [2<1 or 1>2 or 1=2 or not all]", 0);
         faulty("loaf 5;starves ^or all;", 1);
         faulty("loaf 5;starves all and ^and all;", 1);
         faulty("loaf 5;starves all or ^;", 1);
@@ -486,6 +505,9 @@ public final class TextBoundaryTest extends Sentences {
         fine("loaf 5;starves not not not not not not all and not not not not not not all or [[[[[[all]]]]]];", 2);
         fine("loaf 5;starves not not not not not not all and ((((((1))))))=1;", 2);
         fine("loaf 5;starves " + "not all and ".repeat(20) + "all;", 2);
+        fine("loaf 5;starves " + "[all] and ".repeat(20) + "[[[[[[all]]]]]];", 2);
+        fine("loaf 5;grows " + "(1)+".repeat(20) + "((((((1))))));", 2);
+        fine("loaf 5;grows " + "min(1,2)+max(1,2)+".repeat(20) + "((((((1))))));", 2);
         faulty("loaf 5;starves [not not not not not all and not not not not not ^not all;", 4);
     }
 
@@ -604,6 +626,7 @@ public final class TextBoundaryTest extends Sentences {
         asks(e, "total hate hate hate hate hate hate 1+hate hate hate hate hate hate 1*tastes tastes 1", 0);
         asks(e, "often not not not not not hate 1=1 and not not not not not tastes 1=2", 3);
         asksFaulty("often not not not not not not ^hate 1=1", 4);
+        asks(e, "total " + "hate 1+tastes 1+(1)+min(1,2)+".repeat(20) + "hate hate hate hate hate hate 1", 60);
         asks(e, "total hate((((( 1 )))))", 0);
         asksFaulty("total hate(((((^(1))))))", 4);
     }
