@@ -95,6 +95,9 @@ public final class SearchBoundaryTest extends Sentences {
         due("the first of five", of(houses(5)).wanting(0), NONE);
         wanting(of(houses(6)), 1, 19, 37);
         due("seven", of(houses(7)).wanting(NONE), NONE);
+        // a and g are enemies of one another alone: a bakes for g, the last one to eat.
+        wanting(of(houses(7) + "feud a with g hate 1;feud b with c hate 1;feud c with d hate 1;feud b with d hate 1;"
+                + "feud e with f hate 1;"));
         due("with flour for a loaf", at(houses(2), 0, new int[] {1, 5, 0, 1, 5, 0}, 0).wanting(NONE), 1);
         due("without", at(houses(2), 0, new int[] {1, 5, 0, 1, 4, 0}, 0).wanting(NONE), NONE);
         wanting(at(houses(3), 0, new int[] {1, 5, 0, 0, 0, 0, 1, 5, 0}, 0, 0, 0), 2);
